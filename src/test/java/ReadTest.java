@@ -90,6 +90,10 @@ public final class ReadTest {
     private static void wrongWords() {
         fault("sorts 1,1,a;", 0);
         fault("sortx", 0);
+        fault("sorta 1,1,a;", 0);
+        fault("sortz 1,1,a;", 0);
+        fault("tort 1,1,a;", 0);
+        faultBehind("skip 1; ", "ztop 1;");
         fault("x", 0);
         fault("Sort 1,1,a;", 0);
         fault("outx1;", 0);
