@@ -15,6 +15,7 @@ public final class RandomRunsTest {
     private static final String BYTES = "aabbAB001199zz  \u00ff\u0080";
 
     public static void main(String[] args) {
+        CHECKS.sentence("Promises 3 to 15");
         for (int round = 0; round < 4000; round++) {
             compareWithModel(round);
         }
@@ -279,18 +280,22 @@ public final class RandomRunsTest {
 
     private static void compareWithModel(int round) {
         Model model = new Model();
-        SortUtility x = new SortUtility();
         List<String> written = model.written();
         Collections.shuffle(written, RANDOM);
         String text = String.join(blanks() + ";" + blanks(), written) + (written.isEmpty() ? "" : ";");
-        String what = "round " + round + ", " + text;
-        int statements = Checks.read(x, text);
-        if (text.length() > 500) {
+        if (text.length() > 450) {
             return;
         }
-        CHECKS.due(what + " read()", statements, written.size());
+        String what = "round " + round + ", " + text;
+        Counted x = new Counted();
+        CHECKS.due(what + " read()", Checks.read(x, text), written.size());
+        int callsLeft = 505 - text.length();
         for (int number = 0, many = below(25); number < many; number++) {
             String bytes = randomBytes(oneIn(10) ? 100 : 7);
+            callsLeft -= 1 + bytes.length();
+            if (callsLeft < 0) {
+                break;
+            }
             int input = Math.max(0, below(5) - 2);
             Checks.record(x, input, bytes);
             model.inputs.get(input).add(new Entry(bytes, 1, number));
@@ -310,7 +315,7 @@ public final class RandomRunsTest {
         }
     }
 
-    private static void compareOutputs(String what, SortUtility x, Model model) {
+    private static void compareOutputs(String what, Counted x, Model model) {
         CHECKS.due(what + " code()", x.code(), model.code);
         CHECKS.due(what + " count(7)", x.count(7), model.refused.size());
         for (int i = 0; i < model.output.size(); i++) {
@@ -331,7 +336,7 @@ public final class RandomRunsTest {
         CHECKS.due(what + " plain(0)", x.plain(0), plain);
     }
 
-    private static void compareJoined(String what, SortUtility x, Model model) {
+    private static void compareJoined(String what, Counted x, Model model) {
         for (int i = 0; i < model.joined.size(); i++) {
             CHECKS.due(what + " output 2, " + i, Checks.bytes(x, 2, i), model.joined.get(i));
         }
@@ -346,25 +351,24 @@ public final class RandomRunsTest {
         return oneIn(4) ? edges[below(edges.length)] : below(10);
     }
 
-    private static void typeAtRandom(SortUtility x) {
-        String[] words = {"sort ", "include ", "omit ", "sum ", "out ", "skip ", "stop ", "1,2", ",a", ",d,n", " ", "7",
-            ";", ";", ";", "'a b'", "x3", "&", "|", "=", "#", "<", "'", "100,1", "sort 1,1,a;", "sum 2,3;", "2,40"};
-        int length = 0;
-        for (int k = below(12); k > 0; k--) {
-            String word = words[below(words.length)];
-            Checks.type(x, word);
-            length += word.length();
+    private static final String[] BITS = {"sort ", "include ", "omit ", "sum ", "out ", "skip ", "stop ", "1,2", ",a",
+        ",d,n", " ", "7", ";", ";", ";", "'a b'", "x3", "&", "|", "=", "#", "<", "'", "100,1", "sort 1,1,a;", "sum 2,3;",
+        "2,40"};
+
+    private static void readAtRandom(Counted x) {
+        StringBuilder text = new StringBuilder();
+        for (int k = below(8); k > 0; k--) {
+            text.append(BITS[below(BITS.length)]);
         }
         if (oneIn(20)) {
-            x.sign(RANDOM.nextInt());
-            length++;
+            text.append((char) RANDOM.nextInt());
         }
         int[] before = new int[6];
         for (int what = 0; what < 6; what++) {
             before[what] = x.count(what);
         }
-        int answer = x.read();
-        CHECKS.due("a fault is within the text or at its end", answer >= -1 - length, true);
+        int answer = Checks.read(x, text.toString());
+        CHECKS.due("a fault is within the text or at its end", answer >= -1 - text.length(), true);
         for (int what = 0; what < 6 && answer < 0; what++) {
             CHECKS.due("behind a fault, count(" + what + ")", x.count(what), before[what]);
         }
@@ -374,10 +378,10 @@ public final class RandomRunsTest {
     }
 
     private static void callAtRandom() {
-        SortUtility x = new SortUtility();
-        for (int call = 0; call < 150; call++) {
-            switch (below(13)) {
-                case 0 -> typeAtRandom(x);
+        Counted x = new Counted();
+        for (int call = 0; call < 80; call++) {
+            switch (oneIn(15) && call < 70 ? 0 : 1 + below(12)) {
+                case 0 -> readAtRandom(x);
                 case 1, 2 -> x.record(oneIn(2) ? below(3) : anyInt());
                 case 3, 4 -> Checks.octetThrows(x, anyInt(), anyInt(), RANDOM.nextInt());
                 case 5 -> CHECKS.due("run() and count(6)", x.run(), x.count(6));

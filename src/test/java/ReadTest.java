@@ -1,214 +1,39 @@
-/** Promises 2, 3 and 15: sign, read, count. */
+/** Promises 2 and 3: sign, read. */
 public final class ReadTest {
     private static final Checks CHECKS = new Checks();
 
     public static void main(String[] args) {
-        rightTexts();
-        counts();
-        endsAndBlanks();
-        wrongWords();
-        wrongNumbers();
-        wrongKeys();
-        wrongTests();
-        wrongSums();
-        wrongPieces();
-        wrongTextsInQuotes();
-        wrongSigns();
+        charactersComeBehind();
+        anyCharacterIsTaken();
+        theLastThatIsKept();
+        theFirstThatIsLost();
+        theTextIsEmptyThen();
+        nothingOfTheTextBeforeCounts();
+        howManyStatements();
+        theOnlyOnesNow();
+        placesOfFaults();
         aFaultChangesNothing();
-        theLatestTextIsTheOnlyOne();
-        theTextIsCutAt500();
         CHECKS.end();
     }
 
-    private static void right(String text, int statements) {
-        CHECKS.due("read of " + text, Checks.read(new SortUtility(), text), statements);
-    }
-
-    private static void fault(String text, int place) {
-        CHECKS.due("read of " + text, Checks.read(new SortUtility(), text), -1 - place);
-    }
-
-    /** The fault is the first character of the part behind. */
-    private static void faultBehind(String before, String behind) {
-        fault(before + behind, before.length());
-    }
-
-    private static void rightTexts() {
-        right("", 0);
-        right(" \n ", 0);
-        right("sort 1,1,a;", 1);
-        right("sort1,1,a;", 1);
-        right("sort 1,1,a2,2,d3,3,a,b4,4,d,n;", 1);
-        right("sort 1,1,a 1,1,a 1,1,a 1,1,a 1,1,a 1,1,a;", 1);
-        right("sort 100,1,a 61,40,a 1,40,d 0001,0001,a;", 1);
-        right("include 1,1=1,1;", 1);
-        right("include 1,1='a'&2,2#'bb'|3,3<4,40&5,5>'~ ';", 1);
-        right("omit" + " 1,1=1,1 &".repeat(9) + " 1,1=1,1;", 1);
-        right("sum 1,9 10,9 19,9 28,9;", 1);
-        right("sum 92,9;", 1);
-        right("out" + " x1".repeat(12) + ";", 1);
-        right("out 1,40'=''a'x40x1 1,1;", 1);
-        right("out 'abcdefghijklmnopqrst';", 1);
-        right("out ' ' '~' ';' '&|=#<>,;';", 1);
-        right("skip 0;", 1);
-        right("skip 9999;stop 0000;", 2);
-        right("sort 1,1,a; omit 1,1=1,1; sum 1,1; out x1; skip 1; stop 1;", 6);
-        right("stop 1; skip 1; out x1; sum 1,1; include 1,1=1,1; sort 1,1,a;", 6);
-    }
-
-    private static void counts() {
-        SortUtility x = Checks.reading("sort 1,1,a 2,1,d; omit 1,1='b' & 1,1='a' | 1,1='b';"
-                + "sum 1,1 2,1 3,1 4,1; out 1,1 x1 'a' 2,2 x3; stop 140;");
-        Checks.records(x, 0, "b", "c", "a");
-        Checks.records(x, 1, "a", "a", "b", "c", "c");
+    private static void charactersComeBehind() {
+        CHECKS.sentence("Promise 2: A character comes behind the text");
+        Counted x = new Counted();
+        Checks.type(x, "sk");
+        x.count(0);
+        Checks.type(x, "ip 1");
         x.run();
-        x.join(0, 1);
-        int[] due = {5, 8, 2, 3, 4, 5, 2, 1, 5};
-        for (int what = 0; what < due.length; what++) {
-            CHECKS.due("count(" + what + ")", x.count(what), due[what]);
-        }
-        for (int what : new int[] {-1, 9, 10, Integer.MAX_VALUE, Integer.MIN_VALUE}) {
-            CHECKS.due("count(" + what + ")", x.count(what), -1);
-        }
-    }
-
-    private static void endsAndBlanks() {
-        right("\n sort\n 1 , 2 , a , n 3 , 4 , d ;\n", 1);
-        right("include 1 , 1 = ' a' & 2 , 2 < 3 , 3 ; out x 5 ' ' ;", 2);
-        fault("so", 0);
-        for (String text : new String[] {"sort", "sort 1", "sort 1,", "sort 1,2", "sort 1,2,", "sort 1,2,a",
-                "sort 1,2,a,", "sort 1,2,a,b", "sort 1,2,a  ", "include", "include 1,1", "include 1,1=",
-                "include 1,1='", "include 1,1='a", "include 1,1='a'", "include 1,1='a'&", "sum", "sum 1,1", "out",
-                "out x", "out x1", "out x1 ", "skip", "skip 1", "stop \n", "skip 1; stop 12"}) {
-            fault(text, text.length());
-        }
-        faultBehind("sort 1 ", "2,3,a;");
-        fault("so rt 1,1,a;", 0);
-        faultBehind("out x1 ", "\t;");
-    }
-
-    private static void wrongWords() {
-        fault("sorts 1,1,a;", 0);
-        fault("sortx", 0);
-        fault("sorta 1,1,a;", 0);
-        fault("sortz 1,1,a;", 0);
-        fault("tort 1,1,a;", 0);
-        faultBehind("skip 1; ", "ztop 1;");
-        fault("x", 0);
-        fault("Sort 1,1,a;", 0);
-        fault("outx1;", 0);
-        fault("include1", "include1".length());
-        faultBehind("", ";");
-        faultBehind("", "1");
-        faultBehind("skip 1;", ";");
-        faultBehind("skip 1; ", "skip 1;");
-        faultBehind("skip 1; ", "skap 1;");
-        faultBehind("sort 1,1,a;", "sort 1,1,a;");
-        faultBehind("sum 1,1;", "sum 1,1;");
-        faultBehind("out x1;", "out x1;");
-        faultBehind("stop 1;\n", "stop 1;");
-        faultBehind("include 1,1=1,1;", "omit 1,1=1,1;");
-        faultBehind("omit 1,1=1,1;", "include 1,1=1,1;");
-        faultBehind("omit 1,1=1,1;", "omit 1,1=1,1;");
-        faultBehind("include 1,1=1,1;", "include 1,1=1,1;");
-    }
-
-    private static void wrongNumbers() {
-        faultBehind("skip 1234", "5;");
-        faultBehind("stop 0000", "0;");
-        faultBehind("skip ", ";");
-        faultBehind("skip ", "-1;");
-        faultBehind("skip 1", ",1;");
-        faultBehind("skip 1 ", "2;");
-        faultBehind("sort 0", ",1,a;");
-        faultBehind("sort 101", ",1,a;");
-        faultBehind("sort 101", " ,1,a;");
-        faultBehind("sort 9999", "9,1,a;");
-        faultBehind("sort 101", "");
-        faultBehind("sort 1,0", ",a;");
-        faultBehind("sort 1,41", ",a;");
-        faultBehind("sort 1,41", " ,a;");
-        faultBehind("sort 100,2", ",a;");
-        faultBehind("sort 62,40", ",a;");
-        faultBehind("out 100,2", ";");
-        faultBehind("include 100,2", "='a';");
-        faultBehind("include 1,1=100,2", ";");
-    }
-
-    private static void wrongKeys() {
-        faultBehind("sort", ";");
-        faultBehind("sort ", "'a';");
-        faultBehind("sort 1,1", ";");
-        faultBehind("sort 1,1,", "b;");
-        faultBehind("sort 1,1,", ";");
-        faultBehind("sort 1,1,a", "d;");
-        faultBehind("sort 1,1,a,", "a;");
-        faultBehind("sort 1,1,a,", "2,2,a;");
-        faultBehind("sort 1,1,a,n", ",b;");
-        faultBehind("sort 1,1,d,b ", "x;");
-        faultBehind("sort" + " 1,1,a".repeat(6) + " ", "1,1,a;");
-    }
-
-    private static void wrongTests() {
-        faultBehind("include", ";");
-        faultBehind("include ", "'a'=1,1;");
-        faultBehind("include 1,1", ",a;");
-        faultBehind("include 1,1=", "=1,1;");
-        faultBehind("include 1,1=", "x1;");
-        faultBehind("include 1,1=1,1 ", "1,1=1,1;");
-        faultBehind("include 1,1=1,1&", ";");
-        faultBehind("include 1,1=1,1&", "|1,1=1,1;");
-        faultBehind("include" + " 1,1=1,1&".repeat(10) + " ", "1,1=1,1;");
-        faultBehind("omit" + " 1,1=1,1|".repeat(10), ";");
-        faultBehind("omit" + " 1,1=1,1|".repeat(10) + "  ", "");
-    }
-
-    private static void wrongSums() {
-        faultBehind("sum", ";");
-        faultBehind("sum 1,10", ";");
-        faultBehind("sum 1,0", ";");
-        faultBehind("sum 93,9", ";");
-        faultBehind("sum 1,1", ",2,2;");
-        faultBehind("sum 1,1 ", "'a';");
-        faultBehind("sum 1,1 1,1 1,1 1,1 ", "1,1;");
-        faultBehind("sum 1,1", ",a;");
-    }
-
-    private static void wrongPieces() {
-        faultBehind("out", ";");
-        faultBehind("out x", ";");
-        faultBehind("out x0", ";");
-        faultBehind("out x41", ";");
-        faultBehind("out x1234", "5;");
-        faultBehind("out x1", ",1;");
-        faultBehind("out ", "y1;");
-        faultBehind("out 1,41", ";");
-        faultBehind("out" + " x1".repeat(12) + " ", "x1;");
-        faultBehind("out" + " 1,1".repeat(12) + " ", "'a';");
-    }
-
-    private static void wrongTextsInQuotes() {
-        faultBehind("out '", "';");
-        faultBehind("include 1,1='", "';");
-        faultBehind("out 'abcdefghijklmnopqrst", "u';");
-        faultBehind("out 'abcdefghijklmnopqrst", "");
-        faultBehind("out 'ab", "\n';");
-        faultBehind("out 'ab", "\u007f';");
-        faultBehind("out 'ab", "\u001f';");
-        faultBehind("out 'ab'", "c;");
+        Checks.type(x, ";");
+        CHECKS.due("read of skip 1; given bit by bit", x.read(), 1);
     }
 
     /** Characters are whole ints: one that only ends in the bits of another is not that other. */
-    private static void wrongSigns() {
-        int[] wrong = {-1, -2, 0, 256 + 's', 65536 + 's', Integer.MAX_VALUE, Integer.MIN_VALUE, 9, 13, 256 + 32};
-        for (int c : wrong) {
-            SortUtility x = new SortUtility();
+    private static void anyCharacterIsTaken() {
+        CHECKS.sentence("Promise 2: A character comes behind the text");
+        for (int c : new int[] {-1, -2, 0, 255, 256 + 's', 65536 + 's', Integer.MAX_VALUE, Integer.MIN_VALUE}) {
+            Counted x = new Counted();
             x.sign(c);
             CHECKS.due("read of sign " + c, x.read(), -1);
-            Checks.type(x, "skip 1;out 'a");
-            x.sign(c);
-            Checks.type(x, "';");
-            CHECKS.due("read of sign " + c + " in a text", x.read(), -14);
             Checks.type(x, "skip 1; ");
             x.sign(c);
             CHECKS.due("read of sign " + c + " behind a statement", x.read(), -9);
@@ -216,46 +41,132 @@ public final class ReadTest {
             x.sign(c);
             Checks.type(x, ";");
             CHECKS.due("read of sign " + c + " behind a key", x.read(), -11);
+            Checks.type(x, "skip 1;out 'a");
+            x.sign(c);
+            Checks.type(x, "';");
+            CHECKS.due("read of sign " + c + " in a text", x.read(), -14);
         }
+    }
+
+    private static void theLastThatIsKept() {
+        CHECKS.sentence("Promise 2: the 501st and more are lost (the 500th is not)");
+        CHECKS.right(" ".repeat(493) + "skip 1;", 1);
+        CHECKS.fault(" ".repeat(499), "?");
+        CHECKS.fault(" ".repeat(498), "??");
+        CHECKS.fault(" ".repeat(496) + "skip", "");
+        CHECKS.fault(" ".repeat(494) + "skip 1", "");
+        CHECKS.fault(" ".repeat(495) + "out '", "");
+        CHECKS.right("out" + " ".repeat(476) + "'abcdefghijklmnopqr';", 1);
+    }
+
+    private static void theFirstThatIsLost() {
+        CHECKS.sentence("Promise 2: the 501st and more are lost");
+        CHECKS.right("skip 1;" + " ".repeat(493) + "?", 1);
+        CHECKS.right("skip 1;" + " ".repeat(493) + "stop 2;", 1);
+        Counted x = new Counted();
+        Checks.type(x, " ".repeat(494) + "skip 1;");
+        CHECKS.due("the ; is lost, and the end is the fault", x.read(), -1 - 500);
+        CHECKS.due("what is lost does not come to the next text", Checks.read(x, "stop 1"), -1 - 6);
+    }
+
+    private static void theTextIsEmptyThen() {
+        CHECKS.sentence("Promise 3: The text (which is empty then) is read");
+        Counted x = new Counted();
+        CHECKS.due("an empty text", x.read(), 0);
+        CHECKS.due("a right one", Checks.read(x, "skip 1;"), 1);
+        CHECKS.due("a right one behind a right one", Checks.read(x, "skip 2;"), 1);
+        CHECKS.due("a wrong one", Checks.read(x, "skip 3"), -7);
+        CHECKS.due("a right one behind a wrong one", Checks.read(x, "stop 4;"), 1);
+        CHECKS.due("an empty one behind a right one", x.read(), 0);
+        CHECKS.due("a wrong one", Checks.read(x, "!"), -1);
+        CHECKS.due("an empty one behind a wrong one", x.read(), 0);
+        x = new Counted();
+        Checks.type(x, " ".repeat(500));
+        CHECKS.due("a full one", x.read(), 0);
+        CHECKS.due("a right one behind a full one", Checks.read(x, "skip 1;"), 1);
+    }
+
+    private static void nothingOfTheTextBeforeCounts() {
+        CHECKS.sentence("Promise 3: The text (which is empty then)");
+        String[][] texts = {{"skipper 1;", "skip"}, {"skip 1;", "skip 1"}, {"skip 1234;", "skip 12"},
+            {"out 'abc';", "out 'abc"}, {"out 'abcd';", "out 'abc"}, {"sort 1,1,a,n;", "sort 1,1,a"},
+            {"omit 1,1='a'&1,1='b';", "omit 1,1='a'"}, {"sum 1,1 2,2;", "sum 1,1"}};
+        for (String[] two : texts) {
+            Counted x = new Counted();
+            Checks.read(x, two[0]);
+            CHECKS.due(two[1] + " behind " + two[0], Checks.read(x, two[1]), -1 - two[1].length());
+        }
+    }
+
+    private static void howManyStatements() {
+        CHECKS.sentence("Promise 3: how many statements it has");
+        String[] statements = {"sort 1,1,a 2,2,d;", "omit 1,1=1,1|2,2#'a;b;';", "sum 1,1 2,2;", "out ';' x1 1,1;",
+            "skip 1;", "stop 1;"};
+        StringBuilder text = new StringBuilder();
+        for (int many = 0; many <= statements.length; many++) {
+            Counted x = CHECKS.right(text.toString(), many);
+            CHECKS.due("count(0)", x.count(0), many);
+            if (many < statements.length) {
+                text.append(statements[many]);
+            }
+        }
+        CHECKS.right(" \n ", 0);
+    }
+
+    private static void theOnlyOnesNow() {
+        CHECKS.sentence("Promise 3: which are the only ones now");
+        String[] texts = {"sort 1,1,d;", "sort 1,1,a; sum 2,1;", "omit 1,1='b';", "include 1,1='b';", "out 'z';",
+            "skip 1;", "stop 1;"};
+        for (String text : texts) {
+            Counted x = Checks.ran(text, "b1", "c1", "a1", "a1");
+            CHECKS.due(text + " does something", Checks.all(x, 0).equals("[b1][c1][a1][a1]"), false);
+            CHECKS.due(text + " then another", Checks.read(x, "stop 100;"), 1);
+            x.run();
+            CHECKS.due(text + " is there no longer", Checks.all(x, 0), "[b1][c1][a1][a1]");
+            CHECKS.due(text + " count(0)", x.count(0), 1);
+            CHECKS.due(text + " and again", Checks.read(x, text) > 0, true);
+            CHECKS.due(text + " then none", x.read(), 0);
+            CHECKS.due(text + " then none, run()", x.run(), 4);
+            CHECKS.due(text + " then none, code()", x.code(), 0);
+            for (int what : new int[] {0, 2, 3, 4, 5}) {
+                CHECKS.due(text + " then none, count(" + what + ")", x.count(what), 0);
+            }
+        }
+    }
+
+    private static void placesOfFaults() {
+        CHECKS.sentence("Promise 3: -1 minus the fault's place");
+        CHECKS.due("place 0", Checks.read(new Counted(), "?"), -1);
+        CHECKS.due("place 1", Checks.read(new Counted(), " ?"), -2);
+        CHECKS.due("place 499", Checks.read(new Counted(), " ".repeat(499) + "?"), -500);
+        CHECKS.due("place 500", Checks.read(new Counted(), "skip" + " ".repeat(496)), -501);
     }
 
     private static void aFaultChangesNothing() {
-        SortUtility x = Checks.reading("sort 1,1,a 2,2,a; include 1,1=1,1; sum 1,1; out x1; skip 1;");
-        CHECKS.due("a wrong text", Checks.read(x, "stop 0; omit 1,1#1,1; sort 1,1,d; out 1,1 x;"), -1 - 43);
-        int[] due = {5, 0, 2, 1, 1, 1};
-        for (int what = 0; what < due.length; what++) {
-            CHECKS.due("behind a fault, count(" + what + ")", x.count(what), due[what]);
-        }
-        Checks.records(x, 0, "a", "b");
-        CHECKS.due("behind a fault, run()", x.run(), 1);
-        CHECKS.due("behind a fault, the record", Checks.all(x, 0), "[ ]");
-        CHECKS.due("the text is empty behind a fault", Checks.read(x, "skip 0;"), 1);
-    }
-
-    private static void theLatestTextIsTheOnlyOne() {
-        SortUtility x = Checks.reading("sort 1,1,d; omit 1,1='a'; out 'z'; skip 1; stop 1;");
-        Checks.records(x, 0, "c", "a", "b");
-        CHECKS.due("other statements", Checks.read(x, "sum 1,1;"), 1);
-        int[] due = {1, 3, 0, 0, 1, 0};
-        for (int what = 0; what < due.length; what++) {
-            CHECKS.due("behind another text, count(" + what + ")", x.count(what), due[what]);
-        }
+        CHECKS.sentence("Promise 3: -1 minus the fault's place, changing nothing");
+        Counted x = Checks.reading("sort 1,1,a 2,1,a; include 1,1#'c'; sum 2,1; out 1,2 x1; skip 1;");
+        Checks.records(x, 0, "z", "b5", "c", "a1", "b5");
+        Checks.records(x, 1, "b");
+        x.exit(2, true);
         x.run();
-        CHECKS.due("behind another text, the records", Checks.all(x, 0), "[c][a][b]");
-        CHECKS.due("no statements", x.read(), 0);
-        CHECKS.due("no statements, count(0)", x.count(0), 0);
-        CHECKS.due("no statements, count(4)", x.count(4), 0);
-    }
-
-    private static void theTextIsCutAt500() {
-        right(" ".repeat(493) + "skip 1;", 1);
-        right("skip 1;" + " ".repeat(493) + "wrong", 1);
-        fault(" ".repeat(494) + "skip 1;", 500);
-        fault(" ".repeat(500 - 5) + "stopp;", 495);
-        fault("x".repeat(510), 0);
-        SortUtility x = new SortUtility();
-        Checks.type(x, " ".repeat(600));
-        CHECKS.due("600 blanks", x.read(), 0);
-        CHECKS.due("the text is empty behind 600 blanks", Checks.read(x, "skip 1;"), 1);
+        x.join(0, 1);
+        String[] wrong = {"stop 0; omit 1,1#1,1; sort 1,1,d; out 1,1 x;", "sum 3,1; sort 1,1,d; skip 0; ;", "sort", "?"};
+        for (String text : wrong) {
+            CHECKS.due("a wrong text is refused: " + text, Checks.read(x, text) < 0, true);
+            int[] due = {5, 6, 2, 1, 1, 2, 2, 1, 2};
+            for (int what = 0; what < due.length; what++) {
+                CHECKS.due(text + " count(" + what + ")", x.count(what), due[what]);
+            }
+            CHECKS.due(text + " output 0", Checks.all(x, 0), "[A1 ][B5 ]");
+            CHECKS.due(text + " output 1", Checks.all(x, 1), "[c]");
+            CHECKS.due(text + " output 2", Checks.all(x, 2), "[b5b][b5b]");
+            CHECKS.due(text + " left", Checks.left(x), "0 2 3 ");
+            CHECKS.due(text + " code()", x.code(), 16);
+            CHECKS.due(text + " run()", x.run(), 2);
+        }
+        CHECKS.due("the exit stays", x.exit(0, false), 2);
+        x.run();
+        CHECKS.due("the statements stay", Checks.all(x, 0), "[a1 ][b5 ][b5 ]");
+        CHECKS.due("the code of the sums", x.code(), 4);
     }
 }
