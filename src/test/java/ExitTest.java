@@ -42,6 +42,7 @@ public final class ExitTest {
         x.read();
         x.run();
         CHECKS.due("also with other statements", Checks.all(x, 0), "[b]");
+        CHECKS.due("also with other statements, code()", x.code(), 16);
         x.exit(2, false);
         x.run();
         CHECKS.due("another exit", Checks.all(x, 0), "[A][B][C]");
